@@ -405,24 +405,17 @@ public final class KeptSentences {
                 return AGAIN;
             }
         }
+        int best = 0;
         for (int pair = 0; pair < memory.pairs; pair++) {
             if (isLikeSource(s, pair)) {
                 return KNOWN;
             }
+            best = Math.max(best, scoreOf(s, pair));
         }
-        int best = bestScore(s);
         if (best >= 75) {
             return NEAR;
         }
         return best >= 50 ? FAR : NEW;
-    }
-
-    private int bestScore(int s) {
-        int best = 0;
-        for (int pair = 0; pair < memory.pairs; pair++) {
-            best = Math.max(best, scoreOf(s, pair));
-        }
-        return best;
     }
 
     /** Bytes in a row; its array grows when it takes more and is used again otherwise. */
@@ -623,8 +616,10 @@ public final class KeptSentences {
             if (lengths[i] != other.lengths[j]) {
                 return false;
             }
+            byte[] mine = text.bytes;
+            byte[] its = other.text.bytes;
             for (int k = 0; k < lengths[i]; k++) {
-                if (text.at(begins[i] + k) != other.text.at(other.begins[j] + k)) {
+                if (mine[begins[i] + k] != its[other.begins[j] + k]) {
                     return false;
                 }
             }
@@ -636,8 +631,10 @@ public final class KeptSentences {
             if (lengths[i] != other.lengths[j]) {
                 return false;
             }
+            byte[] mine = text.bytes;
+            byte[] its = other.text.bytes;
             for (int k = 0; k < lengths[i]; k++) {
-                if ((text.at(begins[i] + k) | 32) != (other.text.at(other.begins[j] + k) | 32)) {
+                if ((mine[begins[i] + k] | 32) != (its[other.begins[j] + k] | 32)) {
                     return false;
                 }
             }
@@ -913,7 +910,7 @@ public final class KeptSentences {
     private static final class Ladder {
         static final int KEPT = 0, CHANGED = 1, LEFT_OUT = 2, PUT_IN = 3;
         static final int WIDTH = MOST_SOLID + 1;
-        // above every sum that can be, so that no STEP past the end of a row is ever the least
+        // above every sum that can be
         static final int NO_WAY = 1000000;
 
         // sums[i * WIDTH + j]: the least sum from the pieces from i on to those from j on
@@ -926,32 +923,22 @@ public final class KeptSentences {
         int leastSum(Row a, Row b) {
             for (int i = a.solid; i >= 0; i--) {
                 for (int j = b.solid; j >= 0; j--) {
-                    sums[i * WIDTH + j] = leastFrom(a, i, b, j);
+                    boolean hasLeft = i < a.solid;
+                    boolean hasRight = j < b.solid;
+                    int least = hasLeft || hasRight ? NO_WAY : 0;
+                    if (hasLeft && hasRight) {
+                        least = a.changeCost(i, b, j) + sums[(i + 1) * WIDTH + j + 1];
+                    }
+                    if (hasLeft) {
+                        least = Math.min(least, a.aloneCost(i) + sums[(i + 1) * WIDTH + j]);
+                    }
+                    if (hasRight) {
+                        least = Math.min(least, b.aloneCost(j) + sums[i * WIDTH + j + 1]);
+                    }
+                    sums[i * WIDTH + j] = least;
                 }
             }
             return sums[0];
-        }
-
-        int leastFrom(Row a, int i, Row b, int j) {
-            if (i >= a.solid && j >= b.solid) {
-                return 0;
-            }
-            return Math.min(overBoth(a, i, b, j), Math.min(overLeft(a, i, j), overRight(b, i, j)));
-        }
-
-        int overBoth(Row a, int i, Row b, int j) {
-            if (i >= a.solid || j >= b.solid) {
-                return NO_WAY;
-            }
-            return a.changeCost(i, b, j) + sums[(i + 1) * WIDTH + j + 1];
-        }
-
-        int overLeft(Row a, int i, int j) {
-            return i >= a.solid ? NO_WAY : a.aloneCost(i) + sums[(i + 1) * WIDTH + j];
-        }
-
-        int overRight(Row b, int i, int j) {
-            return j >= b.solid ? NO_WAY : b.aloneCost(j) + sums[i * WIDTH + j + 1];
         }
 
         /** From the begin on, for the first place where two rows of STEPS differ decides. */
@@ -962,11 +949,12 @@ public final class KeptSentences {
             int j = 0;
             while (steps < sorts.length && (i < a.solid || j < b.solid)) {
                 int rest = sums[i * WIDTH + j];
-                if (overBoth(a, i, b, j) == rest) {
-                    addStep(a.changeCost(i, b, j) == 0 ? KEPT : CHANGED, i, j);
+                int both = i < a.solid && j < b.solid ? a.changeCost(i, b, j) : NO_WAY;
+                if (both != NO_WAY && both + sums[(i + 1) * WIDTH + j + 1] == rest) {
+                    addStep(both == 0 ? KEPT : CHANGED, i, j);
                     i++;
                     j++;
-                } else if (overLeft(a, i, j) == rest) {
+                } else if (i < a.solid && a.aloneCost(i) + sums[(i + 1) * WIDTH + j] == rest) {
                     addStep(LEFT_OUT, i, NONE);
                     i++;
                 } else {
@@ -1009,17 +997,10 @@ public final class KeptSentences {
         int between(int pair, Row source, int s, Row segment) {
             int place = pair * MOST_SEGMENTS + s;
             if (known[place] == UNKNOWN) {
-                known[place] = measured(source, segment);
+                int n = Math.max(source.solid, segment.solid);
+                known[place] = n == 0 ? 100 : Math.max(0, 100 - 10 * ladder.leastSum(source, segment) / n);
             }
             return known[place];
-        }
-
-        int measured(Row source, Row segment) {
-            int n = Math.max(source.solid, segment.solid);
-            if (n == 0) {
-                return 100;
-            }
-            return Math.max(0, 100 - 10 * ladder.leastSum(source, segment) / n);
         }
     }
 

@@ -780,6 +780,66 @@ public final class PromisesTest {
         due("26: -1", x.about(-1), NONE);
     }
 
+    /** What a longer book, an undone pair or a fuller list left behind must not be seen again. */
+    private static void nothingLeftBehind() {
+        KeptSentences x = book("a b. c d. a b. q");
+        keep(x, 0, "", 0);
+        keep(x, 1, "", 0);
+        due("15: of the second pair", x.score(0, 1), 34);
+        x.undo();
+        due("16: undone pairs are not found", x.found(1, 50, 0), NONE);
+        due("23: undone pairs are not known", x.counted(1), 4);
+        keep(x, 2, "", 0);
+        due("15: of another source", x.score(0, 1), 100);
+        due("16: of another source", x.found(0, 100, 0), 1);
+        x.undo();
+        due("16: only the one that stays", x.found(0, 0, 0), 0);
+        due("16: and no other", x.found(0, 0, 1), NONE);
+        due("25: two", x.spread(0), 2);
+        book(x, "a b. e");
+        due("25: one in the shorter book", x.spread(0), 1);
+        due("24: none again in it", x.count(0, 0), 0);
+        due("24: one known in it", x.count(1, 0), 1);
+    }
+
+    private static void fullLists() {
+        KeptSentences x = book(repeated("a. ", 24));
+        for (int p = 0; p < 20; p++) {
+            keep(x, p, "longwords " + p, p);
+        }
+        due("25: 24", x.spread(19), 24);
+        due("24: 23 again", x.count(0, 0), 23);
+        due("16: the first of 20", x.found(23, 100, 0), 19);
+        due("16: the last of 20", x.found(23, 100, 19), 0);
+        due("16: behind the last", x.found(23, 100, 20), NONE);
+        for (int t = 0; t < 10; t++) {
+            due("22: long words are no term's", x.faults(0), 200);
+            term(x, "q r");
+        }
+        for (int f = 0; f < 5; f++) {
+            due("22: long words are not forbidden", x.faults(0), 200);
+            forbid(x, "s");
+        }
+        due("22: all lists are full", x.faults(0), 200);
+        change(x, 0, "r s s", 0);
+        due("22: a term goes ahead", x.faults(0), 0);
+        change(x, 0, "s", 0);
+        due("22: the first of five", x.faults(0), 100);
+        change(x, 0, repeated("-", 600), 0);
+        due("22: 600 signs", x.faults(0), 200);
+        due("19: 600 signs", x.patch(0, 0), 600);
+        String words19 = repeated("w ", 19);
+        dueText("19: 20 pieces", patched(words19 + "9", "9", words19 + "8.5"), "8,5");
+        dueText("19: 20 pieces, none served", patched(words19 + "9", "", words19 + "8"), "" + STATE);
+        dueText("19: 20 pieces, one too many", patched(words19 + "9", "8 9", words19 + "8"), "" + STATE);
+        dueText("19: 20 pieces without a number", patched(words19 + "w", "8", words19 + "w"), "" + STATE);
+        dueText("19: the digits 0 and 9", patched("<0><9/></0>", "<9/><0></0>", "<9><0/></9>"), "<0/><9></9>");
+        due("14: what stands behind a word", like("a 1", "a1"), 1);
+        due("14: what stands behind a sign", like("- 1", "-1"), 1);
+        due("14: 20 pieces", like(words19 + "w", words19 + "W"), 1);
+        due("15: 20 pieces", score(words19 + "w", words19 + "W"), 100);
+    }
+
     public static void main(String[] args) {
         promise1();
         promise2();
@@ -807,6 +867,8 @@ public final class PromisesTest {
         promise24();
         promise25();
         promise26();
+        nothingLeftBehind();
+        fullLists();
         System.out.println(wrong == 0 ? "all promises hold" : wrong + " answers are not as due");
         if (wrong != 0) {
             System.exit(1);
