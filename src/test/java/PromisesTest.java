@@ -629,6 +629,9 @@ public final class PromisesTest {
             due("20: " + bad, term(x, bad), BAD);
             dueText("20: tape stays", tapeOf(x), bad);
         }
+        due("20: 600 letters", term(x, repeated("a", 600)), BAD);
+        due("21: 600 letters", x.forbid(), BAD);
+        due("5: 600 letters", x.except(), BAD);
         due("20: eight letters", term(x, "abcdefgh ABCDEFGH"), 0);
         due("20: tape is empty then", x.about(4), 0);
         for (int t = 1; t < 10; t++) {
