@@ -611,8 +611,11 @@ public final class ModelRunsTest {
     }
 
     private int number(int most) {
-        int k = below(12);
-        return k == 0 ? -1 : k == 1 ? most : most <= 0 ? 0 : below(most);
+        int k = below(60);
+        if (k < 2) {
+            return k == 0 ? Integer.MIN_VALUE : Integer.MAX_VALUE;
+        }
+        return k < 6 ? -1 : k < 11 ? most : most <= 0 ? 0 : below(most);
     }
 
     private int someSegment() {
@@ -650,12 +653,12 @@ public final class ModelRunsTest {
     private void bookCall() {
         int s = someSegment();
         int i = number(s >= 0 && s < model.segments.size() ? model.segment(s, 3) : 3);
-        int what = number(6);
+        int what = number(below(2) == 0 ? 6 : 3);
         switch (below(5)) {
             case 0 -> same("load()", real.load(), model.load());
             case 1, 2 -> same("segment(" + s + ", " + what + ")", real.segment(s, what), model.segment(s, what));
-            default -> same("piece(" + s + ", " + i + ", " + what % 4 + ")",
-                real.piece(s, i, what % 4), model.piece(s, i, what % 4));
+            default -> same("piece(" + s + ", " + i + ", " + what + ")",
+                real.piece(s, i, what), model.piece(s, i, what));
         }
     }
 
