@@ -947,7 +947,7 @@ public final class KeptSentences {
             steps = 0;
             int i = 0;
             int j = 0;
-            while (steps < sorts.length && (i < a.solid || j < b.solid)) {
+            for (int n = 0; n < sorts.length && (i < a.solid || j < b.solid); n++) {
                 int rest = sums[i * WIDTH + j];
                 int both = i < a.solid && j < b.solid ? a.changeCost(i, b, j) : NO_WAY;
                 if (both != NO_WAY && both + sums[(i + 1) * WIDTH + j + 1] == rest) {
